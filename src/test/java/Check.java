@@ -5,8 +5,15 @@ import java.time.temporal.ChronoUnit;
 final class Check {
     static final int LAST_DAY = 7304;
     private static final LocalDate DAY_0 = LocalDate.of(2000, 1, 1);
+    private static final LocalDate[] DATES = new LocalDate[LAST_DAY + 1];
     private static int wrong = 0;
     private static int made = 0;
+
+    static {
+        for (int day = 0; day <= LAST_DAY; day++) {
+            DATES[day] = DAY_0.plusDays(day);
+        }
+    }
 
     private Check() {
     }
@@ -43,7 +50,7 @@ final class Check {
     }
 
     static LocalDate date(int day) {
-        return DAY_0.plusDays(day);
+        return DATES[day];
     }
 
     /** The set with these numbers. */

@@ -10,8 +10,10 @@ import java.util.TreeSet;
 
 /** Long runs of calls against a second, slow reading of the document over the Java library's dates. */
 public final class ModelTest {
-    private static final int RUNS = 400;
-    private static final int CALLS = 60;
+    private static final int RUNS = 800;
+    // 45 changes and 15 times 31 questions: 510 calls, and the document promises 512 for one object.
+    private static final int CHANGES = 45;
+    private static final int CHANGES_BEFORE_ASKING = 3;
     private static long seed = 20261115;
 
     private final CalendarRules rules = new CalendarRules();
@@ -37,9 +39,9 @@ public final class ModelTest {
     public static void main(String[] args) {
         for (int run = 0; run < RUNS; run++) {
             ModelTest test = new ModelTest();
-            for (int call = 0; call < CALLS; call++) {
+            for (int call = 0; call < CHANGES; call++) {
                 test.change();
-                if (call % 4 == 3) {
+                if ((call + 1) % CHANGES_BEFORE_ASKING == 0) {
                     test.days = test.daysOfTheRule();
                     test.ask();
                 }
@@ -232,32 +234,30 @@ public final class ModelTest {
     }
 
     private void ask() {
-        List<Integer> ordered = new ArrayList<>(days);
-        int wrongDay = -1;
-        for (int day = 0; day <= Check.LAST_DAY && wrongDay < 0; day++) {
-            wrongDay = rules.occurs(day) == days.contains(day) ? -1 : day;
-        }
-        Check.due(trail + ": the first day for which occurs is wrong", wrongDay, -1);
-        for (int i = 0; i < 12; i++) {
-            int day = pickAround(0, Check.LAST_DAY);
-            Integer next = days.ceiling(day);
-            Integer previous = days.floor(day);
-            Check.due(trail + " next(" + day + ")", rules.next(day), orBad(day, next));
-            Check.due(trail + " previous(" + day + ")", rules.previous(day), orBad(day, previous));
-            int n = pickAround(0, Math.max(0, days.size()));
-            Check.due(trail + " nth(" + n + ")", rules.nth(n),
-                n >= 0 && n < ordered.size() ? ordered.get(n) : CalendarRules.NONE);
-            int last = pickAround(0, Check.LAST_DAY);
-            int inside = day > last ? 0 : days.subSet(day, true, last, true).size();
-            Check.due(trail + " between(" + day + ", " + last + ")", rules.between(day, last),
-                isDay(day) && isDay(last) ? inside : CalendarRules.BAD_DAY);
+        Check.due(trail + ": how many days", rules.between(0, Check.LAST_DAY), days.size());
+        for (int i = 0; i < 6; i++) {
+            askAt(pick(0, 1) == 0 ? pickAround(0, Check.LAST_DAY) : pickKnown() + pick(-1, 1));
         }
     }
 
+    private void askAt(int day) {
+        Check.due(trail + " occurs(" + day + ")", rules.occurs(day), days.contains(day));
+        Check.due(trail + " next(" + day + ")", rules.next(day), orBad(day, days.ceiling(day)));
+        Check.due(trail + " previous(" + day + ")", rules.previous(day), orBad(day, days.floor(day)));
+        int n = pickAround(0, days.size());
+        Integer nth = n >= 0 && n < days.size() ? new ArrayList<>(days).get(n) : null;
+        Check.due(trail + " nth(" + n + ")", rules.nth(n), orNone(nth));
+        int last = pickAround(0, Check.LAST_DAY);
+        int inside = day > last ? 0 : days.subSet(day, true, last, true).size();
+        Check.due(trail + " between(" + day + ", " + last + ")", rules.between(day, last),
+            isDay(day) && isDay(last) ? inside : CalendarRules.BAD_DAY);
+    }
+
     private static int orBad(int day, Integer found) {
-        if (!isDay(day)) {
-            return CalendarRules.BAD_DAY;
-        }
+        return isDay(day) ? orNone(found) : CalendarRules.BAD_DAY;
+    }
+
+    private static int orNone(Integer found) {
         return found == null ? CalendarRules.NONE : found;
     }
 
