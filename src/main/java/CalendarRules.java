@@ -251,19 +251,19 @@ public final class CalendarRules {
         for (int day = 0; day < DAYS; day++) {
             inSeries[day] = isCandidate(day);
         }
-        if (keptPosition > 0) {
-            keepFromFirst();
-        }
-        if (keptPosition < 0) {
-            keepFromLast();
+        if (keptPosition != 0) {
+            keepOneOfEachPeriod();
         }
         cutToLimits();
     }
 
-    private void keepFromFirst() {
+    private void keepOneOfEachPeriod() {
+        boolean upward = keptPosition > 0;
+        int wanted = upward ? keptPosition : -keptPosition;
         int current = -1;
         int seen = 0;
-        for (int day = 0; day < DAYS; day++) {
+        for (int i = 0; i < DAYS; i++) {
+            int day = upward ? i : LAST_DAY - i;
             int number = periodOf(day);
             if (number != current) {
                 current = number;
@@ -271,23 +271,7 @@ public final class CalendarRules {
             }
             if (inSeries[day]) {
                 seen++;
-                inSeries[day] = seen == keptPosition;
-            }
-        }
-    }
-
-    private void keepFromLast() {
-        int current = -1;
-        int seen = 0;
-        for (int day = LAST_DAY; day >= 0; day--) {
-            int number = periodOf(day);
-            if (number != current) {
-                current = number;
-                seen = 0;
-            }
-            if (inSeries[day]) {
-                seen++;
-                inSeries[day] = seen == -keptPosition;
+                inSeries[day] = seen == wanted;
             }
         }
     }

@@ -202,7 +202,8 @@ public final class SettingTest {
         rules.position(2);
         rules.limit(1, 3000);
         rules.extra(7, 1);
-        rules.extra(8, 2);
+        rules.extra(0, 2);
+        rules.extra(7304, 2);
         rules.clear();
         dueNew("clear", rules);
         rules.clear();

@@ -5,6 +5,7 @@ public final class TermsTest {
         monthsAndYearsCountIn();
         daysOfTheStart();
         monthDaysOrLastDays();
+        lastDaysOfTheLastMonth();
         ordinalOfTheMonth();
         ordinalOfTheYear();
         ordinalNotLookedAt();
@@ -78,6 +79,18 @@ public final class TermsTest {
             Check.day(2000, 2, 1), Check.day(2000, 2, 28), Check.day(2001, 2, 1));
         rules.weekDays(Check.set(2), 0);
         Check.dueDays("and a Wednesday", rules, Check.day(2001, 2, 28), Check.day(2006, 2, 1), Check.day(2007, 2, 28));
+    }
+
+    private static void lastDaysOfTheLastMonth() {
+        CalendarRules rules = new CalendarRules();
+        rules.start(Check.day(2019, 11, 25));
+        rules.frequency(2, 1);
+        rules.monthDays(0, Check.set(1, 31));
+        Check.dueDays("last and 31st from the end", rules,
+            Check.day(2019, 11, 30), Check.day(2019, 12, 1), Check.day(2019, 12, 31));
+        rules.monthDays(0, 0);
+        rules.weekDays(Check.set(1), -1);
+        Check.dueDays("last Tuesdays", rules, Check.day(2019, 11, 26), Check.day(2019, 12, 31));
     }
 
     private static void ordinalOfTheMonth() {
