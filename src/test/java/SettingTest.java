@@ -1,3 +1,6 @@
+import java.util.List;
+import java.util.function.ToIntFunction;
+
 /** Promises 1 to 10: a new object and the calls that change the rule. What is refused stands in RefusalTest. */
 public final class SettingTest {
     private static final int MIN = Integer.MIN_VALUE;
@@ -5,6 +8,7 @@ public final class SettingTest {
 
     public static void main(String[] args) {
         anObjectIsUsedForAtMost512Calls();
+        anyCallMayBeMade512Times();
         promise1NewObject();
         promise2Start();
         promise2StartAtBothEnds();
@@ -41,6 +45,28 @@ public final class SettingTest {
         }
         Check.due("call 511", rules.start(7304), 1);
         Check.due("call 512", rules.nth(0), 7304);
+    }
+
+    /** What a call answers does not wear off, whichever one it is. */
+    private static void anyCallMayBeMade512Times() {
+        List<ToIntFunction<CalendarRules>> calls = List.of(
+            rules -> rules.start(3), rules -> rules.frequency(1, 2), rules -> rules.months(6),
+            rules -> rules.monthDays(6, 2), rules -> rules.weekDays(6, 1), rules -> rules.position(1),
+            rules -> rules.limit(9, 9), rules -> rules.extra(9, 2), rules -> rules.occurs(9) ? 1 : 0,
+            rules -> rules.next(9), rules -> rules.previous(9), rules -> rules.nth(9), rules -> rules.between(9, 10),
+            rules -> rules.weekday(9), rules -> rules.dayOf(2000, 1, 10));
+        int[] due = {1, 0, 2, 3, 2, 0, 0, 1, 1, 9, 9, 9, 2, 0, 9};
+        for (int i = 0; i < due.length; i++) {
+            CalendarRules rules = new CalendarRules();
+            for (int call = 1; call <= 512; call++) {
+                Check.due("call number " + i + ", made " + call + " times", calls.get(i).applyAsInt(rules), due[i]);
+            }
+        }
+        CalendarRules cleared = new CalendarRules();
+        for (int call = 1; call <= 511; call++) {
+            cleared.clear();
+        }
+        Check.due("all days after 511 times clear", cleared.between(0, 7304), 7305);
     }
 
     /** The same as an object of which every part is set to what the promise names. */
